@@ -174,8 +174,7 @@ public final class FerryHall {
 
     public int reached(int what) throws NoSuchElementException {
         needWhat(what, 3);
-        explore();
-        if (graph.spent) {
+        if (!explore()) {
             return NONE;
         }
         switch (what) {
@@ -196,27 +195,24 @@ public final class FerryHall {
         }
     }
 
-    /** The changed crossings that WhatIf tries overwrite the graph; it is built again only then. */
-    private void explore() {
+    /** False: spent. What WhatIf tries overwrites the graph; only then it is built again. */
+    private boolean explore() {
         if (!graph.ready) {
             graph.build(rules.everyLaw(), model.holds[0], model.loads[0]);
             graph.ready = true;
         }
+        return !graph.spent;
     }
 
     public int fewest() {
-        return findWay(false);
+        return explore() ? findWay(false) : SPENT;
     }
 
     public int quickest() {
-        return findWay(true);
+        return explore() ? findWay(true) : SPENT;
     }
 
     private int findWay(boolean timed) {
-        explore();
-        if (graph.spent) {
-            return SPENT;
-        }
         paths.measure(graph, 0, timed);
         if (paths.least == NONE) {
             return NONE;
@@ -226,8 +222,7 @@ public final class FerryHall {
     }
 
     public int ways() {
-        explore();
-        if (graph.spent) {
+        if (!explore()) {
             return SPENT;
         }
         paths.measure(graph, 0, false);
@@ -343,8 +338,7 @@ public final class FerryHall {
 
     public int hint(int what) throws NoSuchElementException {
         needWhat(what, 3);
-        explore();
-        if (graph.spent) {
+        if (!explore()) {
             return SPENT;
         }
         int source = graph.indexOf(game.state());
@@ -585,20 +579,14 @@ public final class FerryHall {
                     behind++;
                 }
             } else if (isDigit(behind)) {
-                readDigits();
+                kind = NUMBER;
+                digits = 0;
+                while (behind < length && isDigit(behind)) {
+                    digits = behind - start < 3 ? digits * 10 + bytes[behind] - '0' : digits;
+                    behind++;
+                }
             } else {
                 kind = isSignByte(bytes[behind]) ? SIGN : NO_TOKEN;
-                behind++;
-            }
-        }
-
-        private void readDigits() {
-            kind = NUMBER;
-            digits = 0;
-            while (behind < length && isDigit(behind)) {
-                if (behind - start < 3) {
-                    digits = digits * 10 + bytes[behind] - '0';
-                }
                 behind++;
             }
         }
@@ -816,22 +804,20 @@ public final class FerryHall {
             advance();
             model.codeStarts[model.laws] = model.codeLength;
             readExpr(OR_LEVEL, 0);
-            model.scopes[model.laws] = readScope();
+            int scope = Model.EVERYWHERE;
+            if (takeWord("ashore")) {
+                scope = Model.ASHORE;
+            } else if (takeWord("aboard")) {
+                scope = Model.ABOARD;
+            } else if (takeWord("at")) {
+                scope = needShore(NONE);
+            }
+            model.scopes[model.laws] = scope;
             model.laws++;
             model.codeStarts[model.laws] = model.codeLength;
         }
 
-        private int readScope() {
-            if (takeWord("ashore")) {
-                return Model.ASHORE;
-            }
-            if (takeWord("aboard")) {
-                return Model.ABOARD;
-            }
-            return takeWord("at") ? needShore(NONE) : Model.EVERYWHERE;
-        }
-
-        /** nest: how many other expressions this one is within; part() keeps it under MOST_NESTS. */
+        /** nest: how many other expressions this one is within; readNested keeps it under MOST_NESTS. */
         private void readExpr(int level, int nest) {
             if (level == NOT_LEVEL) {
                 readNot(nest);
@@ -932,32 +918,23 @@ public final class FerryHall {
         }
 
         private void readMeasure() {
-            int measure = measureHere();
-            if (measure == NONE) {
+            if (isWord("many")) {
+                emit(Code.MANY);
+            } else if (isWord("weight")) {
+                emit(Code.WEIGHT);
+            } else if (isWord("rowers")) {
+                emit(Code.ROWERS);
+            } else if (isWord("boats")) {
+                emit(Code.BOATS);
+            } else if (isWord("lamp")) {
+                emit(Code.LAMP);
+            } else if (isWord("shore")) {
+                emit(Code.SHORE);
+            } else {
                 fail(3);
                 return;
             }
-            emit(measure);
             advance();
-        }
-
-        private int measureHere() {
-            if (isWord("many")) {
-                return Code.MANY;
-            }
-            if (isWord("weight")) {
-                return Code.WEIGHT;
-            }
-            if (isWord("rowers")) {
-                return Code.ROWERS;
-            }
-            if (isWord("boats")) {
-                return Code.BOATS;
-            }
-            if (isWord("lamp")) {
-                return Code.LAMP;
-            }
-            return isWord("shore") ? Code.SHORE : NONE;
         }
 
         private void emit(int code) {
@@ -974,8 +951,9 @@ public final class FerryHall {
         private static final int DEEPEST = 64;
 
         Model model;
-        int rowers = 0;
         private final int[] known = new int[PLACES * SETS];
+        private final int[] manyRow = new int[SETS];
+        private final int[] rowerRow = new int[SETS];
         private final int[] weightRow = new int[SETS];
         private final int[] minuteRow = new int[SETS];
         private final int[] stack = new int[DEEPEST];
@@ -987,11 +965,7 @@ public final class FerryHall {
         void begin(Model read) {
             model = read;
             Arrays.fill(known, NONE);
-            rowers = 0;
             for (int thing = 0; thing < model.things && thing < MOST_THINGS; thing++) {
-                if (model.minutes[thing] > 0) {
-                    rowers |= 1 << thing;
-                }
                 addThing(thing);
             }
         }
@@ -999,7 +973,10 @@ public final class FerryHall {
         /** The sets whose highest thing this is, from those without it. */
         private void addThing(int thing) {
             int bit = 1 << thing;
+            int rower = model.minutes[thing] > 0 ? 1 : 0;
             for (int set = 0; set < bit && bit + set < SETS; set++) {
+                manyRow[bit + set] = manyRow[set] + 1;
+                rowerRow[bit + set] = rowerRow[set] + rower;
                 weightRow[bit + set] = weightRow[set] + model.weights[thing];
                 minuteRow[bit + set] = Math.max(minuteRow[set], model.minutes[thing]);
             }
@@ -1013,12 +990,20 @@ public final class FerryHall {
             return set < 0 || set >= SETS ? 0 : weightRow[set];
         }
 
+        int manyOf(int set) {
+            return set < 0 || set >= SETS ? 0 : manyRow[set];
+        }
+
+        int rowersOf(int set) {
+            return set < 0 || set >= SETS ? 0 : rowerRow[set];
+        }
+
         int everyLaw() {
             return (1 << model.laws) - 1;
         }
 
         boolean fits(int set, int hold, int load) {
-            return (set & rowers) != 0 && Integer.bitCount(set) <= hold && weightOf(set) <= load;
+            return rowersOf(set) > 0 && manyOf(set) <= hold && weightOf(set) <= load;
         }
 
         /** The laws (bits) that bar a group; shore: model.shores stands for aboard. */
@@ -1075,11 +1060,11 @@ public final class FerryHall {
         private int operand(int code, int set, int shore, int boats, int lamp) {
             switch (code) {
                 case Code.MANY:
-                    return Integer.bitCount(set);
+                    return manyRow[set & 255];
                 case Code.WEIGHT:
-                    return weightOf(set);
+                    return weightRow[set & 255];
                 case Code.ROWERS:
-                    return Integer.bitCount(set & rowers);
+                    return rowerRow[set & 255];
                 case Code.BOATS:
                     return boats;
                 case Code.LAMP:
@@ -1175,8 +1160,8 @@ public final class FerryHall {
             model = of.model;
         }
 
-        /** barring: the laws that bar; hold, load: what boat 0 bears. */
-        void build(int barring, int hold, int load) {
+        /** barring: the laws that bar; hold, load: what boat 0 bears. The fewest crossings, NONE or SPENT. */
+        int build(int barring, int hold, int load) {
             model = rules.model;
             active = barring;
             ready = false;
@@ -1201,6 +1186,7 @@ public final class FerryHall {
                 }
                 firstEdges[i + 1] = edgeCount;
             }
+            return spent ? SPENT : goalDepth;
         }
 
         private void markFitting(int boat, int hold, int load) {
@@ -1591,17 +1577,17 @@ public final class FerryHall {
         /** graph: as the text tells it; it is another one behind. */
         void weighLaws(Rules rules, Graph graph) {
             Model model = rules.model;
-            int fewest = graph.goalDepth;
+            int told = graph.spent ? SPENT : graph.goalDepth;
             boolean spent = graph.spent;
             lawsKnown = true;
             freeLaws = 0;
             aloneLaws = 0;
             for (int law = 0; law < model.laws && !spent; law++) {
-                graph.build(rules.everyLaw() & ~(1 << law), model.holds[0], model.loads[0]);
-                spent = graph.spent;
-                if (graph.goalDepth == fewest) {
+                int without = graph.build(rules.everyLaw() & ~(1 << law), model.holds[0], model.loads[0]);
+                spent = without == SPENT;
+                if (without == told) {
                     freeLaws |= 1 << law;
-                } else if (fewest == NONE) {
+                } else if (told == NONE) {
                     aloneLaws |= 1 << law;
                 }
             }
@@ -1615,46 +1601,37 @@ public final class FerryHall {
             if (held == UNKNOWN) {
                 held = NONE;
                 for (int hold = 1; hold <= MOST_HELD && held == NONE; hold++) {
-                    int answer = tryBoat(rules, graph, hold, rules.model.loads[0]);
-                    held = answer >= 0 ? hold : answer;
+                    int fewest = graph.build(rules.everyLaw(), hold, rules.model.loads[0]);
+                    held = fewest >= 0 ? hold : fewest;
                 }
             }
             return held;
         }
 
         int leastLoad(Rules rules, Graph graph) {
-            if (load == UNKNOWN) {
-                load = searchLoad(rules, graph);
+            if (load != UNKNOWN) {
+                return load;
             }
-            return load;
-        }
-
-        private int searchLoad(Rules rules, Graph graph) {
             int hold = rules.model.holds[0];
-            int answer = tryBoat(rules, graph, hold, MOST_LOAD);
-            int least = 0;
+            int fewest = graph.build(rules.everyLaw(), hold, MOST_LOAD);
+            int least = fewest >= 0 ? 0 : MOST_LOAD;
             int greatest = MOST_LOAD;
-            if (answer < 0) {
-                return answer;
-            }
-            for (int i = 0; i <= MOST_LOAD && least < greatest; i++) {
+            load = fewest;
+            for (int i = 0; i <= MOST_LOAD && least < greatest && load != SPENT; i++) {
                 int middle = (least + greatest) / 2;
-                answer = tryBoat(rules, graph, hold, middle);
-                if (answer == SPENT) {
-                    return SPENT;
-                }
-                if (answer == NONE) {
+                fewest = graph.build(rules.everyLaw(), hold, middle);
+                if (fewest == SPENT) {
+                    load = SPENT;
+                } else if (fewest == NONE) {
                     least = middle + 1;
                 } else {
                     greatest = middle;
                 }
             }
-            return least;
-        }
-
-        private int tryBoat(Rules rules, Graph graph, int hold, int load) {
-            graph.build(rules.everyLaw(), hold, load);
-            return graph.spent ? SPENT : graph.goalDepth;
+            if (load >= 0) {
+                load = least;
+            }
+            return load;
         }
     }
 
@@ -1809,6 +1786,9 @@ public final class FerryHall {
             }
             int barred = judge(boat, to, set);
             if (barred == 0) {
+                barred = judgeByLaws(boat, to, set);
+            }
+            if (barred == 0) {
                 states[made + 1] = model.after(states[made], boat, to, set);
                 minutes[made + 1] = minutes[made] + rules.minutesOf(set);
                 made++;
@@ -1816,6 +1796,7 @@ public final class FerryHall {
             return barred;
         }
 
+        /** What bars a crossing ahead of all laws: 1 to 6, or 0. */
         private int judge(int boat, int to, int set) {
             if (boat < 0 || boat >= model.boats || boat >= MOST_BOATS || to < 0 || to >= model.shores) {
                 return 1;
@@ -1827,10 +1808,10 @@ public final class FerryHall {
             if ((set & ~Layout.ashore(state(), from, model.all())) != 0) {
                 return 2;
             }
-            if ((set & rules.rowers) == 0) {
+            if (rules.rowersOf(set) == 0) {
                 return 3;
             }
-            if (Integer.bitCount(set) > model.holds[boat]) {
+            if (rules.manyOf(set) > model.holds[boat]) {
                 return 4;
             }
             if (rules.weightOf(set) > model.loads[boat]) {
@@ -1839,7 +1820,7 @@ public final class FerryHall {
             if (model.lamp != NONE && Layout.lampShore(state()) != from) {
                 return 6;
             }
-            return judgeByLaws(boat, to, set);
+            return 0;
         }
 
         private int judgeByLaws(int boat, int to, int set) {
