@@ -6,6 +6,7 @@ public final class FerryHall {
     public static final int NONE = -1;
 
     private static final int SPENT = -2;
+    private static final int UNKNOWN = -3;
     private static final int TAPE_BYTES = 700;
     private static final int FEED_BYTES = 20;
     private static final int MOST_SHORES = 4;
@@ -77,6 +78,7 @@ public final class FerryHall {
         rules.begin(model);
         graph.ready = false;
         whatIf.forget();
+        roundsSearch.answer = UNKNOWN;
         kept.length = NONE;
         game.begin();
     }
@@ -1140,6 +1142,7 @@ public final class FerryHall {
         private static final int SLOTS = 4096;
 
         boolean ready = false;
+        int builds = 0;
         boolean spent = false;
         int stateCount = 0;
         int edgeCount = 0;
@@ -1165,6 +1168,7 @@ public final class FerryHall {
             model = rules.model;
             active = barring;
             ready = false;
+            builds++;
             spent = false;
             stateCount = 0;
             edgeCount = 0;
@@ -1321,6 +1325,8 @@ public final class FerryHall {
         private static final int FAR = Integer.MAX_VALUE;
 
         int least = NONE;
+        private int measuredBuild = 0;
+        private int measuredFrom = NONE;
         private boolean timed = false;
         private int settled = 0;
         private int heaped = 0;
@@ -1330,8 +1336,16 @@ public final class FerryHall {
         private final int[] spots = new int[ROW];
         private final int[] wayCounts = new int[ROW];
 
-        /** From one state: all lengths, the least one to a goal (NONE: no way), how many ways are as short. */
+        /**
+         * From one state: all lengths, the least one to a goal (NONE: no way), how many ways are as short. Asked the
+         * same again, the rows still tell it.
+         */
         void measure(Graph graph, int source, boolean byMinutes) {
+            if (measuredBuild == graph.builds && measuredFrom == source && timed == byMinutes) {
+                return;
+            }
+            measuredBuild = graph.builds;
+            measuredFrom = source;
             timed = byMinutes;
             least = NONE;
             settled = 0;
@@ -1475,6 +1489,7 @@ public final class FerryHall {
         /** How many states have no way: those that no goal is found from, however often all are looked through. */
         int hopeless(Graph graph) {
             int without = graph.stateCount;
+            measuredBuild = 0;
             Arrays.fill(wayCounts, 0);
             boolean found = true;
             for (int pass = 0; pass <= ROW && found; pass++) {
@@ -1560,8 +1575,6 @@ public final class FerryHall {
 
     /** What changed laws or another boat 0 would bring. Each answer is found once a text. */
     private static final class WhatIf {
-        private static final int UNKNOWN = -3;
-
         boolean lawsKnown = false;
         int freeLaws = 0;
         int aloneLaws = 0;
@@ -1640,6 +1653,7 @@ public final class FerryHall {
         private static final int STATES = 1024;
         private static final int MOST_HELD_HERE = 3;
 
+        int answer = UNKNOWN;
         private final Rules rules;
         private Model model;
         private final int[] depths = new int[STATES];
@@ -1657,27 +1671,38 @@ public final class FerryHall {
         }
 
         int fewestRounds() {
-            model = rules.model;
-            if (model.shores != 2 || model.boats != 2 || model.lamp != NONE
-                    || model.holds[0] > MOST_HELD_HERE || model.holds[1] > MOST_HELD_HERE) {
-                return SPENT;
+            if (answer != UNKNOWN) {
+                return answer;
             }
+            model = rules.model;
+            answer = SPENT;
+            if (isAsTold()) {
+                answer = NONE;
+                begin();
+            }
+            boolean barred = rules.barringAshore(model.start()) != 0;
+            for (int i = 0; i < queued && i < STATES && answer == NONE; i++) {
+                now = queue[i];
+                if ((now & 255) == model.all()) {
+                    answer = depths[now & STATES - 1];
+                } else if (!barred) {
+                    addRounds();
+                }
+            }
+            return answer;
+        }
+
+        private boolean isAsTold() {
+            return model.shores == 2 && model.boats == 2 && model.lamp == NONE
+                    && model.holds[0] <= MOST_HELD_HERE && model.holds[1] <= MOST_HELD_HERE;
+        }
+
+        private void begin() {
             Arrays.fill(depths, NONE);
             queued = 0;
             firstCount = listLoads(0, firstLoads);
             secondCount = listLoads(1, secondLoads);
             addState(model.berths[0] << 8 | model.berths[1] << 9, 0);
-            boolean barred = rules.barringAshore(model.start()) != 0;
-            for (int i = 0; i < queued && i < STATES; i++) {
-                now = queue[i];
-                if ((now & 255) == model.all()) {
-                    return depths[now];
-                }
-                if (!barred) {
-                    addRounds();
-                }
-            }
-            return NONE;
         }
 
         /** What a boat may have aboard, wherever it is; the set 0, ahead of all, stands for a boat that stays. */
