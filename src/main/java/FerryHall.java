@@ -1200,24 +1200,14 @@ public final class FerryHall {
             }
         }
 
-        /** Whatever a crossing takes along, the groups at the other shores are the same while it lasts. */
         private boolean mayLeave(int state, int boat) {
-            int from = Layout.berth(state, boat);
-            if (model.lamp != NONE && Layout.lampShore(state) != from) {
-                return false;
-            }
-            for (int shore = 0; shore < model.shores; shore++) {
-                if (shore != from) {
-                    int group = Layout.ashore(state, shore, model.all());
-                    if ((rules.barring(group, shore, model.boatsAt(state, shore), 0) & active) != 0) {
-                        return false;
-                    }
-                }
-            }
-            return true;
+            return model.lamp == NONE || Layout.lampShore(state) == Layout.berth(state, boat);
         }
 
-        /** The group left behind is the same on the water and behind the crossing: it is asked once. */
+        /**
+         * Three groups are asked: the one aboard (fitting), the one left, which is the same on the water and behind the
+         * crossing, and the one come to. Those at other shores are as they were, and no state here is barred.
+         */
         private void addCrossings(int state, int boat) {
             int from = Layout.berth(state, boat);
             int present = Layout.ashore(state, from, model.all());

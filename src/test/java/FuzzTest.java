@@ -25,7 +25,7 @@ public final class FuzzTest {
 
     public static void main(String[] args) {
         long first = args.length > 0 ? Long.parseLong(args[0]) : 1;
-        int many = args.length > 1 ? Integer.parseInt(args[1]) : 400;
+        int many = args.length > 1 ? Integer.parseInt(args[1]) : 1500;
         int bad = 0;
         for (long seed = first; seed < first + many; seed++) {
             FuzzTest test = new FuzzTest(seed);

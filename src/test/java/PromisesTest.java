@@ -36,6 +36,7 @@ public final class PromisesTest {
         laws();
         size();
         rounds();
+        roundsOnTheWater();
         alike();
         cross();
         law();
@@ -43,6 +44,7 @@ public final class PromisesTest {
         play();
         hint();
         spent();
+        spentEdges();
         Told.end();
     }
 
@@ -526,6 +528,18 @@ public final class PromisesTest {
                 + "never a aboard;", -1);
     }
 
+    private static void roundsOnTheWater() {
+        String opposite = "thing a weight 1 rows 1;thing b weight 1 rows 1;thing c weight 1;"
+                + "boat holds 2 load 9 at 0;boat holds 1 load 9 at 0;";
+        rounds(opposite, 1);
+        rounds(opposite + "never lamp aboard;never boats=2 aboard;never shore=2 ashore;", 1);
+        // the boats pass each other: meanwhile one is left at shore 1, and no boat lies there
+        String passing = FOUR + "boat holds 2 load 99 at 0;boat holds 2 load 99 at 0;never many=4 and boats=2 at 1;";
+        rounds(passing, 4);
+        rounds(passing + "never many=1 and boats=0 at 1;", -1);
+        rounds("thing a weight 1 rows 1;thing b weight 1 rows 1;boat holds 1 load 9 at 0;boat holds 1 load 9 at 1;", -1);
+    }
+
     private static void alike() {
         Told.due("21: all", Told.hall(FOUR).alike(2), 15);
         Told.due("21: rows", Told.hall(BRIDGE).alike(1), 2);
@@ -562,6 +576,12 @@ public final class PromisesTest {
         Told.due("22: 60 were made", sixty.cross(0, 1, 1), 9);
         Told.due("22: ahead of all", sixty.cross(7, 7, 7), 9);
         Told.due("22: 60", sixty.count(5), 60);
+        FerryHall far = Told.hall("shores 3;" + ONE + "lamp at 0;");
+        for (int i = 0; i < 60; i++) {
+            far.cross(0, 1 + i % 2, 1);
+        }
+        Told.due("25: behind 60", far.play(8) * 100 + far.play(4) * 10 + far.play(2), 222);
+        Told.due("26: behind 60", far.hint(0), 0);
         Told.due("22: minutes", sixty.play(0), 60);
         sixty.back();
         Told.due("22: again", sixty.cross(0, 0, 1), 0);
@@ -690,5 +710,27 @@ public final class PromisesTest {
         Told.due("12: no load", z.fewest(), -1);
         Told.due("19: spent by 999", z.size(1), -2);
         Told.due("19: none held", z.size(0), -1);
+    }
+
+    /** Texts that come just to the bounds of SPENT, and just beyond. */
+    private static void spentEdges() {
+        String five = "shores 3;" + EIGHT.substring(0, EIGHT.indexOf("thing f")) + "boat holds 2 load 99 at 0;";
+        FerryHall x = Told.hall(five + "boat holds 2 load 99 at 0;water 0 1;water 1 2;"
+                + "never a*b*c*d and many<6 at 1;never a*d*e and many=4 at 2;");
+        Told.due("11: 2000 states", x.reached(0), 2000);
+        Told.due("11: crossings", x.reached(1), 14832);
+        Told.due("12: fewest of 2000 states", x.fewest(), 8);
+        FerryHall y = Told.hall(five + "boat holds 1 load 99 at 0;water 0 1;water 1 2;never b*d*e and many<5 at 1;");
+        Told.due("11: 2001 states", y.reached(0), -1);
+        Told.due("12: fewest of 2001 states", y.fewest(), -2);
+        String eight = EIGHT.replace("thing a weight 1 rows 1", "thing a weight 1")
+                + "boat holds 4 load 99 at 0;boat holds 3 load 99 at 0;";
+        FerryHall z = Told.hall(eight + "never a*b*h and many=3 at 0;never b*d*e*g*h and many<7 and boats=0 at 0;");
+        Told.due("11: 40,000 crossings", z.reached(1), 40000);
+        Told.due("11: states", z.reached(0), 1012);
+        Told.due("12: fewest of 40,000 crossings", z.fewest(), 4);
+        FerryHall w = Told.hall(eight + "never f and many=1 and boats=0 at 1;");
+        Told.due("11: 40,002 crossings", w.reached(1), -1);
+        Told.due("14: ways of 40,002 crossings", w.ways(), -2);
     }
 }

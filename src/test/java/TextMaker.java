@@ -12,7 +12,34 @@ final class TextMaker {
     }
 
     static String make(Random random) {
-        return new TextMaker(random).text();
+        TextMaker maker = new TextMaker(random);
+        return random.nextInt(6) == 0 ? maker.roundsText() : maker.text();
+    }
+
+    /** Two shores, two boats that hold little, no lamp, and laws that ask where the boats are. */
+    private String roundsText() {
+        int things = 1 + below(6);
+        for (int i = 0; i < things; i++) {
+            thing(i, chance(50));
+        }
+        for (int i = 0; i < 2; i++) {
+            out.append("boat holds ").append(1 + below(3)).append(" load ").append(chance(80) ? 999 : below(50))
+                    .append(" at ").append(below(2)).append(';');
+        }
+        for (int i = below(4); i > 0; i--) {
+            out.append("never ");
+            if (chance(60)) {
+                out.append(chance(20) ? "not " : "").append(name()).append(" and ");
+            }
+            if (chance(40)) {
+                out.append("many").append(pick("=", "<")).append(1 + below(4)).append(" and ");
+            }
+            if (chance(10)) {
+                out.append("lamp=").append(below(2)).append(" and ");
+            }
+            out.append("boats=").append(below(3)).append(pick(" ashore", " ashore", " at 0", " at 1", " aboard", "")).append(';');
+        }
+        return out.toString();
     }
 
     private int below(int n) {
