@@ -16,6 +16,7 @@ public final class PromisesTest {
         feed();
         text();
         faultsOfTokens();
+        faultsOfWords();
         faultsOfNumbers();
         faultsOfTooMuch();
         faultsOfNames();
@@ -143,6 +144,32 @@ public final class PromisesTest {
         Told.fault("" + (char) 0, 1, 0);
     }
 
+    /** A word is none, if any letter of it is another one, or one is missing, or one too much. */
+    private static void faultsOfWords() {
+        String text = "shores 3;thing a weight 1 rows 1;boat holds 1 load 1 at 0;water 0 1;way 1 2;lamp at 0;"
+                + "never not a and many or weight ashore;never rowers+boats+lamp+shore aboard;never 1 at 0;";
+        Told.fault(text, 0, -1);
+        java.util.regex.Matcher word = java.util.regex.Pattern.compile("[a-z]{2,}").matcher(text);
+        while (word.find()) {
+            for (int at = word.start(); at <= word.end(); at++) {
+                spoilt(text.substring(0, at) + "z" + text.substring(at), word.start());
+                if (at < word.end()) {
+                    spoilt(text.substring(0, at) + "z" + text.substring(at + 1), word.start());
+                    if (!word.group().equals("boats") || at != word.end() - 1) {
+                        spoilt(text.substring(0, at) + text.substring(at + 1), word.start());
+                    }
+                }
+            }
+        }
+    }
+
+    private static void spoilt(String text, int place) {
+        FerryHall x = new FerryHall();
+        int fault = Told.tell(x, text);
+        Told.due("a fault of: " + text, fault == 1 || fault == 3 || fault == 4 ? 1 : 0, 1);
+        Told.due("4: fault of: " + text, x.fault(), place);
+    }
+
     private static void faultsOfNumbers() {
         Told.fault("shores 1;", 2, 7);
         Told.fault("shores 5;", 2, 7);
@@ -159,6 +186,9 @@ public final class PromisesTest {
         Told.fault("boat holds 8 load 0 at 2;", 4, 23);
         Told.fault("boat holds 8 load 0 at 0000;", 2, 23);
         Told.fault("lamp at 2;", 4, 8);
+        Told.fault("lamp at 002;", 4, 8);
+        Told.fault("lamp at 999;", 4, 8);
+        Told.fault("lamp at 001;", 0, -1);
         Told.fault("shores 4;lamp at 3;", 0, -1);
         Told.fault("shores 4;lamp at 4;", 4, 17);
         Told.fault("shores 3;water 2 3;", 4, 17);
@@ -389,6 +419,12 @@ public final class PromisesTest {
         Told.due("13: minutes", y.quickest(), 91);
         Told.due("13: crossings", y.way(-1, 0), 2);
         Told.due("13: the first row", y.way(0, 2), 3);
+        // five crossings by those who row quickly would take nine minutes too
+        FerryHall z = Told.hall("thing d weight 1 rows 3;thing b weight 1;thing m weight 1 rows 1;thing p weight 1;"
+                + "thing j weight 1 rows 5;boat holds 3 load 999 at 0;never 2<many and rowers=1 ashore;");
+        Told.due("13: of like minutes", z.quickest(), 9);
+        Told.due("13: the fewest crossings", z.way(-1, 0), 3);
+        Told.due("13: the first of them", z.way(0, 2) * 10000 + z.way(1, 2) * 100 + z.way(2, 2), 70428);
     }
 
     private static void ways() {
@@ -537,6 +573,9 @@ public final class PromisesTest {
         String passing = FOUR + "boat holds 2 load 99 at 0;boat holds 2 load 99 at 0;never many=4 and boats=2 at 1;";
         rounds(passing, 4);
         rounds(passing + "never many=1 and boats=0 at 1;", -1);
+        rounds(opposite + "never lamp ashore;never lamp=1;", 1);
+        rounds(ONE + "boat holds 1 load 9 at 0;way 1 0;", -1);
+        rounds(ONE + "boat holds 1 load 9 at 0;way 0 1;", 1);
         rounds("thing a weight 1 rows 1;thing b weight 1 rows 1;boat holds 1 load 9 at 0;boat holds 1 load 9 at 1;", -1);
     }
 
@@ -719,6 +758,7 @@ public final class PromisesTest {
                 + "never a*b*c*d and many<6 at 1;never a*d*e and many=4 at 2;");
         Told.due("11: 2000 states", x.reached(0), 2000);
         Told.due("11: crossings", x.reached(1), 14832);
+        Told.due("11: farthest", x.reached(3) >= 8 ? 1 : 0, 1);
         Told.due("12: fewest of 2000 states", x.fewest(), 8);
         FerryHall y = Told.hall(five + "boat holds 1 load 99 at 0;water 0 1;water 1 2;never b*d*e and many<5 at 1;");
         Told.due("11: 2001 states", y.reached(0), -1);
