@@ -1779,10 +1779,11 @@ public final class FerryHall {
             model = of.model;
         }
 
-        /** The law that barred the latest crossing stays known: no crossing has been tried since. */
+        /** What barred a crossing ahead of this was a law of another text: none of this play has been tried yet. */
         void begin() {
             model = rules.model;
             made = 0;
+            barringLaw = NONE;
             states[0] = model.start();
         }
 

@@ -127,6 +127,7 @@ public final class FuzzTest {
         log.add("text: " + text);
         same("text(" + length + ")", () -> hall.text(length), () -> oracle.text(length));
         same("fault()", hall::fault, oracle::fault);
+        same("law()", hall::law, oracle::law);
     }
 
     private void asks(int many) {

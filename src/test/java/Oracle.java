@@ -648,6 +648,7 @@ final class Oracle {
         }
         place = -1;
         kept = null;
+        barLaw = -1;
         made.clear();
         states.clear();
         states.add(start());

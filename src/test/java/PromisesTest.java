@@ -41,6 +41,7 @@ public final class PromisesTest {
         alike();
         cross();
         law();
+        lawBehindText();
         back();
         play();
         hint();
@@ -655,6 +656,30 @@ public final class PromisesTest {
         FerryHall lit = Told.hall(ONE + "lamp at 0;never lamp=0;never lamp and shore=1;");
         Told.due("23: the lamp goes along", lit.cross(0, 1, 1), 8);
         Told.due("23: law", lit.law(), 1);
+    }
+
+    private static void lawBehindText() {
+        String barring = ONE + "never 1=2;never a aboard;";
+        FerryHall x = Told.hall(barring);
+        Told.due("23: on the water", x.cross(0, 1, 1), 7);
+        Told.due("23: of this text", x.law(), 1);
+        Told.due("23: nothing is taken back", x.back(), -1);
+        Told.due("23: back() leaves it", x.law(), 1);
+        Told.due("23: a text with a fault", Told.tell(x, "shores 3;thing"), 1);
+        Told.due("23: all stays behind a fault", x.law(), 1);
+        Told.illegal("23: no text", () -> x.text(1));
+        Told.due("23: nothing changes", x.law(), 1);
+        Told.due("23: the same text again", Told.tell(x, barring), 0);
+        Told.due("23: a new play", x.law(), -1);
+        Told.due("23: barred in it", x.cross(0, 1, 1), 7);
+        Told.due("23: law of it", x.law(), 1);
+        Told.due("23: the empty text", x.text(0), 0);
+        Told.due("23: no laws at all", x.law(), -1);
+        FerryHall y = Told.hall(ONE + "never a at 1;");
+        Told.due("23: behind it", y.cross(0, 1, 1), 8);
+        Told.due("23: told 8", y.law(), 0);
+        Told.due("23: another text", Told.tell(y, "shores 3;thing h weight 7;"), 0);
+        Told.due("23: none of it", y.law(), -1);
     }
 
     private static void back() {
