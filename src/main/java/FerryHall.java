@@ -594,11 +594,11 @@ public final class FerryHall {
         }
 
         private boolean isLetter(int at) {
-            return bytes[at] >= 'a' && bytes[at] <= 'z';
+            return at >= 0 && at < bytes.length && bytes[at] >= 'a' && bytes[at] <= 'z';
         }
 
         private boolean isDigit(int at) {
-            return bytes[at] >= '0' && bytes[at] <= '9';
+            return at >= 0 && at < bytes.length && bytes[at] >= '0' && bytes[at] <= '9';
         }
 
         private static boolean isSignByte(int sign) {
@@ -721,7 +721,8 @@ public final class FerryHall {
         }
 
         private void readThing() {
-            if (model.things >= MOST_THINGS) {
+            int thing = model.things;
+            if (thing < 0 || thing >= MOST_THINGS) {
                 fail(2);
                 return;
             }
@@ -730,10 +731,10 @@ public final class FerryHall {
             needWord("weight");
             int weight = needNumber(0, 99);
             int minutes = takeWord("rows") ? needNumber(1, 99) : 0;
-            model.letters[model.things] = letter;
-            model.weights[model.things] = weight;
-            model.minutes[model.things] = minutes;
-            model.things++;
+            model.letters[thing] = letter;
+            model.weights[thing] = weight;
+            model.minutes[thing] = minutes;
+            model.things = thing + 1;
         }
 
         private int needNewName() {
@@ -760,18 +761,19 @@ public final class FerryHall {
         }
 
         private void readBoat() {
-            if (model.boats >= MOST_BOATS) {
+            int boat = model.boats;
+            if (boat < 0 || boat >= MOST_BOATS) {
                 fail(2);
                 return;
             }
             advance();
             needWord("holds");
-            model.holds[model.boats] = needNumber(1, MOST_HELD);
+            model.holds[boat] = needNumber(1, MOST_HELD);
             needWord("load");
-            model.loads[model.boats] = needNumber(0, MOST_LOAD);
+            model.loads[boat] = needNumber(0, MOST_LOAD);
             needWord("at");
-            model.berths[model.boats] = needShore(NONE);
-            model.boats++;
+            model.berths[boat] = needShore(NONE);
+            model.boats = boat + 1;
         }
 
         private void readWater(boolean bothWays) {
@@ -799,12 +801,13 @@ public final class FerryHall {
         }
 
         private void readLaw() {
-            if (model.laws >= MOST_LAWS) {
+            int law = model.laws;
+            if (law < 0 || law >= MOST_LAWS) {
                 fail(2);
                 return;
             }
             advance();
-            model.codeStarts[model.laws] = model.codeLength;
+            model.codeStarts[law] = model.codeLength;
             readExpr(OR_LEVEL, 0);
             int scope = Model.EVERYWHERE;
             if (takeWord("ashore")) {
@@ -814,9 +817,9 @@ public final class FerryHall {
             } else if (takeWord("at")) {
                 scope = needShore(NONE);
             }
-            model.scopes[model.laws] = scope;
-            model.laws++;
-            model.codeStarts[model.laws] = model.codeLength;
+            model.scopes[law] = scope;
+            model.codeStarts[law + 1] = model.codeLength;
+            model.laws = law + 1;
         }
 
         /** nest: how many other expressions this one is within; readNested keeps it under MOST_NESTS. */
@@ -1150,7 +1153,7 @@ public final class FerryHall {
         final Rules rules;
         private Model model;
         private int active = 0;
-        private int expanding = 0;
+        private int nextDepth = 0;
         private final int[] states = new int[MOST_STATES];
         private final int[] depths = new int[MOST_STATES];
         private final int[] firstEdges = new int[MOST_STATES + 1];
@@ -1173,7 +1176,6 @@ public final class FerryHall {
             stateCount = 0;
             edgeCount = 0;
             goalDepth = NONE;
-            expanding = 0;
             Arrays.fill(slots, 0);
             markFitting(0, hold, load);
             markFitting(1, model.holds[1], model.loads[1]);
@@ -1182,7 +1184,7 @@ public final class FerryHall {
             boolean barred = (rules.barringAshore(start) & active) != 0;
             for (int i = 0; i < stateCount && i < MOST_STATES && !spent; i++) {
                 firstEdges[i] = edgeCount;
-                expanding = i;
+                nextDepth = depths[i] + 1;
                 for (int boat = 0; boat < model.boats && !barred; boat++) {
                     if (mayLeave(states[i], boat)) {
                         addCrossings(states[i], boat);
@@ -1235,7 +1237,7 @@ public final class FerryHall {
             int target = indexOf(after);
             if (target == NONE) {
                 target = stateCount;
-                addState(after, depths[expanding] + 1);
+                addState(after, nextDepth);
             }
             if (edgeCount >= MOST_EDGES) {
                 spent = true;
@@ -1288,15 +1290,15 @@ public final class FerryHall {
         }
 
         boolean isGoal(int index) {
-            return index >= 0 && index < stateCount && model.isGoal(states[index]);
+            return index >= 0 && index < stateCount && index < MOST_STATES && model.isGoal(states[index]);
         }
 
         int firstEdge(int index) {
-            return index >= 0 && index <= stateCount ? firstEdges[index] : 0;
+            return index >= 0 && index <= stateCount && index <= MOST_STATES ? firstEdges[index] : 0;
         }
 
         int edge(int at) {
-            return at >= 0 && at < edgeCount ? edges[at] : 0;
+            return at >= 0 && at < edgeCount && at < edges.length ? edges[at] : 0;
         }
 
         static int target(int edge) {
@@ -1352,14 +1354,18 @@ public final class FerryHall {
                 order[i] = nearest;
                 settled = i + 1;
                 if (least == NONE && graph.isGoal(nearest)) {
-                    least = lengths[nearest];
+                    least = lengthOf(nearest);
                 }
                 for (int at = graph.firstEdge(nearest); at < graph.firstEdge(nearest + 1); at++) {
                     int edge = graph.edge(at);
-                    shorten(Graph.target(edge), lengths[nearest] + weight(graph, edge));
+                    shorten(Graph.target(edge), lengthOf(nearest) + weight(graph, edge));
                 }
             }
             countWays(graph);
+        }
+
+        private int lengthOf(int state) {
+            return state >= 0 && state < ROW ? lengths[state] : FAR;
         }
 
         private int weight(Graph graph, int edge) {
@@ -1387,7 +1393,7 @@ public final class FerryHall {
             int spot = from;
             while (spot > 0 && spot < ROW) {
                 int above = (spot - 1) / 2;
-                if (lengths[heap[above]] <= lengths[state]) {
+                if (lengthOf(heap[above]) <= lengthOf(state)) {
                     break;
                 }
                 put(spot, heap[above]);
@@ -1397,7 +1403,7 @@ public final class FerryHall {
         }
 
         private void put(int spot, int state) {
-            if (spot >= 0 && spot < ROW) {
+            if (spot >= 0 && spot < ROW && state >= 0 && state < ROW) {
                 heap[spot] = state;
                 spots[state] = spot;
             }
@@ -1415,11 +1421,10 @@ public final class FerryHall {
         private void lower(int state) {
             int spot = 0;
             for (int below = 1; below < heaped && below < ROW; below = 2 * spot + 1) {
-                int lesser = below;
-                if (below + 1 < heaped && lengths[heap[below + 1]] < lengths[heap[below]]) {
-                    lesser = below + 1;
-                }
-                if (lengths[heap[lesser]] >= lengths[state]) {
+                int right = below + 1;
+                boolean isLesser = right < heaped && right < ROW && lengthOf(heap[right]) < lengthOf(heap[below]);
+                int lesser = isLesser ? right : below;
+                if (lengthOf(heap[lesser]) >= lengthOf(state)) {
                     break;
                 }
                 put(spot, heap[lesser]);
@@ -1430,8 +1435,11 @@ public final class FerryHall {
 
         /** Backwards: what lies behind a state on a shortest way has been settled later than it. */
         private void countWays(Graph graph) {
-            for (int i = settled - 1; i >= 0 && least != NONE; i--) {
+            for (int i = Math.min(settled, ROW) - 1; i >= 0 && least != NONE; i--) {
                 int state = order[i];
+                if (state < 0 || state >= ROW) {
+                    continue;
+                }
                 if (lengths[state] == least && graph.isGoal(state)) {
                     wayCounts[state] = 1;
                 } else if (lengths[state] < least) {
@@ -1750,7 +1758,7 @@ public final class FerryHall {
             }
             int after = now ^ gone ^ (3 & ~staying) << 8;
             if (!barredAshore(after, model.all(), 3)) {
-                addState(after, depths[now] + 1);
+                addState(after, depths[now & STATES - 1] + 1);
             }
         }
 
@@ -1797,7 +1805,7 @@ public final class FerryHall {
 
         int tryCrossing(int boat, int to, int set) {
             barringLaw = NONE;
-            if (made >= MOST_MADE) {
+            if (made < 0 || made >= MOST_MADE) {
                 return 9;
             }
             int barred = judge(boat, to, set);
@@ -1805,8 +1813,8 @@ public final class FerryHall {
                 barred = judgeByLaws(boat, to, set);
             }
             if (barred == 0) {
-                states[made + 1] = model.after(states[made], boat, to, set);
-                minutes[made + 1] = minutes[made] + rules.minutesOf(set);
+                states[made + 1] = model.after(state(), boat, to, set);
+                minutes[made + 1] = minutesSoFar() + rules.minutesOf(set);
                 made++;
             }
             return barred;

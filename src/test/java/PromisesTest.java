@@ -247,12 +247,6 @@ public final class PromisesTest {
         Told.fault("water 0 1;water 0 1;way 1 0;", 0, -1);
     }
 
-    /** Of the group {a, b} at shore 1 of 2, with 2 boats and the lamp: a law bars if its expression holds. */
-    private static void holds(String expr, boolean holds) {
-        FerryHall x = Told.hall("thing a weight 7 rows 1;thing b weight 4;thing c weight 9 rows 3;never " + expr + ";");
-        Told.due("bars: " + expr, x.bars(3, 1, 2, true), holds ? 1 : 0);
-    }
-
     private static void expressions() {
         String[] held = {"1", "999", "a", "not c", "many=2", "weight=11", "rowers=1", "boats=2", "lamp=1", "shore=1",
             "1+2*3=7", "(1+2)*3=9", "10-3-2=5", "20/3/2=3", "7/2*2=6", "(0-7)/2=0-3", "5/0=0", "5/0*0=0", "2-3", "0-1<0",
@@ -260,12 +254,12 @@ public final class PromisesTest {
             "(2<3)+(3=3)=2", "999*999*999*999<0", "a+b+c=2", "a*weight=11", "(not 5)=0", "(not not 5)=1", "1 or c",
             "0-0=0", "999*999*999/999/999=999", "3/2*2=2", "0<(0-999)*999*999*3"};
         for (String e : held) {
-            holds(e, true);
+            Told.holds(e, true);
         }
         String[] not = {"0", "c", "not a", "1<1", "2=3", "a and c", "0 or c", "1-1", "many<2", "5/9", "not 5", "a*c",
             "not not 0", "not not 5=1", "0/5", "weight<11"};
         for (String e : not) {
-            holds(e, false);
+            Told.holds(e, false);
         }
     }
 

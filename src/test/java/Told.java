@@ -1,3 +1,6 @@
+import java.lang.reflect.InvocationTargetException;
+import java.lang.reflect.Method;
+import java.lang.reflect.Modifier;
 import java.util.NoSuchElementException;
 
 /** What the tests share: telling a hall a text, and counting the answers that are not due. */
@@ -49,7 +52,7 @@ final class Told {
             wrong++;
             System.out.println(what + " answered " + got + ", due is NoSuchElementException");
         } catch (NoSuchElementException e) {
-            return;
+            exactly(what, e, NoSuchElementException.class);
         }
     }
 
@@ -59,7 +62,48 @@ final class Told {
             wrong++;
             System.out.println(what + " answered " + got + ", due is IllegalArgumentException");
         } catch (IllegalArgumentException e) {
-            return;
+            exactly(what, e, IllegalArgumentException.class);
+        }
+    }
+
+    private static void exactly(String what, RuntimeException thrown, Class<?> due) {
+        if (thrown.getClass() != due) {
+            wrong++;
+            System.out.println(what + " threw " + thrown + ", due is " + due.getSimpleName());
+        }
+    }
+
+    /** Of the group {a, b} at shore 1 of 2, with 2 boats and the lamp: a law bars if its expression holds. */
+    static void holds(String expr, boolean holds) {
+        FerryHall x = hall("thing a weight 7 rows 1;thing b weight 4;thing c weight 9 rows 3;never " + expr + ";");
+        due("bars: " + expr, x.bars(3, 1, 2, true), holds ? 1 : 0);
+    }
+
+    /** Runs each test of a class, a static method named after what it tests, and tells by name those that fail. */
+    static void runEach(Class<?> tests) {
+        int run = 0;
+        for (Method test : tests.getDeclaredMethods()) {
+            if (Modifier.isStatic(test.getModifiers()) && test.getName().matches("(face|terms|promise)[0-9]*[A-Z].*")) {
+                run++;
+                runOne(test);
+            }
+        }
+        System.out.println(run + " tests of " + tests.getSimpleName());
+    }
+
+    private static void runOne(Method test) {
+        int before = wrong;
+        try {
+            test.setAccessible(true);
+            test.invoke(null);
+        } catch (InvocationTargetException e) {
+            wrong++;
+            System.out.println("thrown: " + e.getCause());
+        } catch (IllegalAccessException e) {
+            throw new IllegalStateException(e);
+        }
+        if (wrong != before) {
+            System.out.println("FAILED: " + test.getName());
         }
     }
 
