@@ -41,7 +41,7 @@ public final class FuzzTest {
         }
     }
 
-    private static String answer(Call call) {
+    static String answer(Call call) {
         try {
             return Integer.toString(call.of());
         } catch (RuntimeException e) {
